@@ -84,7 +84,7 @@ public final class KeyArchive {
 
     public long read(int leaf) throws IndexOutOfBoundsException, NoSuchElementException {
         requireIndex(leaf, LEAVES);
-        cover.gather();
+        cover.gatherBeside(NONE);
         if (!cover.canRead(leaf, ALL_MEDIA)) {
             throw new NoSuchElementException("there is no record, or it cannot be read");
         }
@@ -110,7 +110,7 @@ public final class KeyArchive {
         if (what == 1) {
             return inTree;
         }
-        cover.gather();
+        cover.gatherBeside(NONE);
         return inTree - cover.countReadable(ALL_MEDIA);
     }
 
@@ -445,9 +445,7 @@ public final class KeyArchive {
         }
         int written = cover.chooseToMigrate(medium);
         int target = media.writableBeside(medium);
-        if (written > media.roomOn(target)) {
-            throw new IllegalStateException("there is not enough room for the entries");
-        }
+        requireRoomOn(target, written);
         for (int i = 0; i < written; i++) {
             media.copyEntry(cover.chosen(i), target);
         }
@@ -462,17 +460,15 @@ public final class KeyArchive {
         if (tree.recordOn(leaf) == NONE) {
             return NONE;
         }
-        cover.gather();
+        cover.gatherBeside(NONE);
         return cover.leastMedia(leaf);
     }
 
     public int duplicate() throws IllegalStateException {
-        cover.gather();
+        cover.gatherBeside(NONE);
         int target = media.writableBeside(NONE);
         int written = cover.countMissing(target);
-        if (written > media.roomOn(target)) {
-            throw new IllegalStateException("there is not enough room for the entries");
-        }
+        requireRoomOn(target, written);
         for (int place = 1; place < PLACES; place++) {
             if (cover.isMissing(place, target)) {
                 wrap(place);
@@ -487,7 +483,7 @@ public final class KeyArchive {
     }
 
     public int redundantMedia() {
-        cover.gather();
+        cover.gatherBeside(NONE);
         int readable = cover.countReadable(ALL_MEDIA);
         int mask = 0;
         for (int m = 0; m < media.number(); m++) {
@@ -561,7 +557,14 @@ public final class KeyArchive {
     }
 
     private void requireRoom(int entries) {
-        if (entries > media.roomOn(media.writableBeside(NONE)) || !keys.areEnoughLeft()) {
+        requireRoomOn(media.writableBeside(NONE), entries);
+        if (!keys.areEnoughLeft()) {
+            throw new IllegalStateException("no more keys can be made");
+        }
+    }
+
+    private void requireRoomOn(int medium, int entries) {
+        if (entries > media.roomOn(medium)) {
             throw new IllegalStateException("there is not enough room for the entries");
         }
     }
@@ -655,7 +658,7 @@ public final class KeyArchive {
         if (!media.isIntact(medium)) {
             throw new IllegalStateException("the medium is not intact");
         }
-        cover.gather();
+        cover.gatherBeside(NONE);
         int gone = cover.countReadable(ALL_MEDIA) - cover.countReadable(~(1 << medium));
         media.end(medium, state);
         return gone;
@@ -1042,7 +1045,7 @@ public final class KeyArchive {
         }
 
         boolean isIntact(int medium) {
-            return stateOf(medium) == INTACT;
+            return exists(medium) && states[medium] == INTACT;
         }
 
         int sizeOf(int medium) {
@@ -1050,7 +1053,7 @@ public final class KeyArchive {
         }
 
         int roomOn(int medium) {
-            return isIntact(medium) ? MEDIUM_ROOM - sizeOf(medium) : 0;
+            return exists(medium) && states[medium] == INTACT ? MEDIUM_ROOM - sizes[medium] : 0;
         }
 
         int writableBeside(int medium) {
@@ -1073,8 +1076,8 @@ public final class KeyArchive {
         }
 
         void write(int medium, int kind, int innerNumber, int outerKey) {
-            int at = medium * MEDIUM_ROOM + sizeOf(medium);
-            if (roomOn(medium) > 0 && exists(medium) && isEntry(at)) {
+            int at = entryAt(medium, sizeOf(medium));
+            if (exists(medium) && roomOn(medium) > 0 && isEntry(at)) {
                 kinds[at] = kind;
                 inner[at] = innerNumber;
                 outer[at] = outerKey;
@@ -1259,8 +1262,13 @@ public final class KeyArchive {
             this.media = media;
         }
 
-        void gather() {
-            gatherBeside(NONE);
+        void gatherBeside(int medium) {
+            Arrays.fill(masks, 0);
+            for (int m = 0; m < media.number(); m++) {
+                if (m != medium && media.isIntact(m)) {
+                    gatherFrom(m);
+                }
+            }
         }
 
         boolean canRead(int leaf, int allowed) {
@@ -1336,15 +1344,6 @@ public final class KeyArchive {
 
         int chosen(int index) {
             return index >= 0 && index < MEDIUM_ROOM ? choice[index] : NONE;
-        }
-
-        private void gatherBeside(int medium) {
-            Arrays.fill(masks, 0);
-            for (int m = 0; m < media.number(); m++) {
-                if (m != medium && media.isIntact(m)) {
-                    gatherFrom(m);
-                }
-            }
         }
 
         private void gatherFrom(int medium) {

@@ -55,6 +55,13 @@ public final class ForgettingTest {
         sameKeys("22: only the root", x, new int[] {0, 4, 20, 84}, new int[] {15, -1, -1, -1});
         Check.is("22: entries stay", 19, x.medium(0, 1));
         Check.is("22: none is live", 0, x.medium(0, 2));
+        KeyArchive last = Build.with(62, 63);
+        last.mark(63, true);
+        Check.is("22: the last places", 3, last.forgetCost());
+        Check.is("22: as told", 3, last.forget(true));
+        sameKeys("22: the last places", last, new int[] {0, 4, 20, 83, 84}, new int[] {6, 7, 8, 4, -1});
+        Entries.same("22: the last places", last, 0, 6,
+            new long[][] {{0, 7, 6}, {0, 8, 7}, {0, 4, 8}});
         Check.is("22: stored anew", 4, x.store(0, 1));
         sameKeys("22: new nodes", x, new int[] {1, 5, 21}, new int[] {16, 17, 18});
     }
@@ -106,6 +113,10 @@ public final class ForgettingTest {
         x.mark(16, true);
         Check.is("22: no custodian opens it", 1, x.forget(false));
         Check.is("22: kept still", 6, x.custodian(3, 0));
+        KeyArchive y = Build.with(0);
+        y.keep(0, 21);
+        y.mark(0, true);
+        Check.noState("22: the key of a leaf opens it, too", () -> y.forget(false));
     }
 
     private static void promise22CustodianOutsideR() {

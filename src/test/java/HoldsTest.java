@@ -157,6 +157,9 @@ public final class HoldsTest {
         x.release(0);
         Check.is("18: released", 1, x.passDays(1));
         Check.is("18: marks", 5, x.markCount());
+        x.store(63, 1);
+        x.setDue(63, 1);
+        Check.is("18: the last leaf", 1, x.passDays(1));
         KeyArchive y = new KeyArchive();
         for (int i = 0; i < 99; i++) {
             y.passDays(10000);
@@ -200,6 +203,9 @@ public final class HoldsTest {
         Check.is("20: pinned still", 1, x.dueCount(true));
         x.release(1);
         Check.is("20: no longer pinned", 1, x.dueCount(false));
+        x.store(63, 1);
+        x.setDue(63, 1);
+        Check.is("20: the last leaf", 2, x.dueCount(false));
         Check.is("20: none pinned", 0, x.dueCount(true));
     }
 }

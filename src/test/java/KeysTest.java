@@ -49,6 +49,7 @@ public final class KeysTest {
         Check.is("27: root", 1, x.keep(0, 0));
         Check.is("27: leaf", 4, x.keep(3, 21));
         Check.is("27: instead", 3, x.keep(0, 5));
+        Check.is("27: the last place", 4, Build.with(63).keep(0, 84));
         Check.is("27: that one is kept", 3, x.custodian(0, 0));
         Check.is("27: for that place", 5, x.custodian(0, 1));
         Check.noState("27: empty", () -> x.keep(0, 22));
@@ -127,6 +128,7 @@ public final class KeysTest {
         Check.noIndex("30: place -1", () -> x.rekey(-1));
         Check.noIndex("30: place 85", () -> x.rekey(85));
         Check.is("30: the root without children", 2, new KeyArchive().rekey(0));
+        Check.is("30: place 20", 5, Build.with(63).rekey(20));
 
         KeyArchive full = Build.with(0, 3, 4);
         Build.fill(full, 148);
@@ -164,6 +166,8 @@ public final class KeysTest {
         Check.is("31: place 5 becomes empty", -1, x.key(5));
         Check.is("31: place 1 becomes empty", -1, x.key(1));
         Check.is("31: all readable", 0, x.recordCount(2));
+        Check.is("31: from the last place", 1, x.move(84, 60));
+        Check.is("31: to the last place", 1, x.move(83, 84));
     }
 
     private static void promise31MoveLevels() {

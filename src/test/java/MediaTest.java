@@ -65,6 +65,14 @@ public final class MediaTest {
         Check.noIndex("35: medium 3", () -> x.medium(3, 0));
         Check.noIndex("35: medium -1", () -> x.medium(-1, 0));
         Check.noIndex("35: the medium comes first", () -> x.medium(3, 4));
+        KeyArchive y = Build.with(0, 4);
+        describe("35: all live", y, 0, 0, 7, 7, 7);
+        y.rekey(5);
+        describe("35: not those of the old key, inside or around", y, 0, 0, 9, 7, 7);
+        y.move(21, 26);
+        describe("35: nor those of a place that became empty", y, 0, 0, 10, 6, 6);
+        y.store(0, 1);
+        describe("35: nor when it has a node again", y, 0, 0, 13, 9, 9);
         KeyArchive full = Build.withEntries(150);
         Check.is("35: no room elsewhere, still counted", 4, full.medium(0, 3));
     }
@@ -249,6 +257,10 @@ public final class MediaTest {
         y.move(21, 22);
         y.move(22, 21);
         Check.is("40: twice on one medium", 1, y.redundancy(0));
+        y.addMedium();
+        y.duplicate();
+        y.rekey(0);
+        Check.is("40: the entry of level 1 counts", 1, y.redundancy(0));
     }
 
     private static void promise41Duplicate() {
@@ -265,6 +277,11 @@ public final class MediaTest {
         Check.is("41: nothing is missing now", 0, x.duplicate());
         x.destroy(0);
         Check.is("41: all readable", 0, x.recordCount(2));
+        KeyArchive y = Build.with(0, 63);
+        y.addMedium();
+        Check.is("41: all, from the first place to the last", 8, y.duplicate());
+        Entries.same("41: all", y, 1, 0, new long[][] {{0, 2, 1}, {0, 5, 1}, {0, 3, 2}, {0, 6, 5},
+            {0, 4, 3}, {0, 7, 6}, {1, 0, 4}, {1, 1, 7}});
     }
 
     private static void promise41Room() {

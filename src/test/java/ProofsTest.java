@@ -68,11 +68,16 @@ public final class ProofsTest {
         Check.is("44: in place of an earlier one", 0, x.keepProof(3, 1));
         Check.is("44: that one is kept", 0, x.proofNumber(3, 0));
         Check.is("44: with the leaf as another child", hash, x.proofNumber(3, 2));
+        x.keepProof(2, 0);
+        x.keepProof(1, 63);
+        Check.is("44: the slot behind is as it was", hash, x.proofNumber(2, 0));
         Check.noIndex("44: slot 4", () -> x.keepProof(4, 0));
         Check.noIndex("44: slot -1", () -> x.keepProof(-1, 0));
         Check.noIndex("44: leaf 64", () -> x.keepProof(0, 64));
         Check.noIndex("44: leaf -1", () -> x.keepProof(0, -1));
-        Check.noState("44: slot 1 has none", () -> x.proofHash(1));
+        KeyArchive y = new KeyArchive();
+        y.keepProof(0, 0);
+        Check.noState("44: slot 1 has none", () -> y.proofHash(1));
     }
 
     private static void promise45ProofNumber() {

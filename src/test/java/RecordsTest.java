@@ -51,7 +51,10 @@ public final class RecordsTest {
         x.keepProof(3, 5);
         x.addMedium();
         x.lose(0);
-        x.mark(5, true);
+        Build.mark(x, 0, 5);
+        x.release(6);
+        x.mark(63, true);
+        x.hold(6, 3);
         x.reset(77);
         Check.is("2: root key", 1, x.key(0));
         Check.noIndex("2: no more keys", () -> x.keyValue(2));
@@ -181,6 +184,11 @@ public final class RecordsTest {
         y.mark(0, true);
         y.forget(true);
         Check.noElement("4: forgotten", () -> y.read(0));
+        KeyArchive z = Build.with(0, 20);
+        z.addMedium();
+        z.rekey(0);
+        z.destroy(1);
+        Check.noElement("4: the key entry of level 1 is gone", () -> z.read(20));
     }
 
     private static void promise5RecordAt() {
@@ -237,6 +245,7 @@ public final class RecordsTest {
     private static void promise8Openers() {
         KeyArchive x = Build.with(0, 1, 4);
         Check.is("8: only the root", 1, x.openers(0));
+        Check.is("8: the root, another branch", 1, Build.with(20).openers(0));
         x.keep(0, 1);
         x.keep(1, 5);
         x.keep(2, 21);
@@ -355,5 +364,15 @@ public final class RecordsTest {
         z.destroy(0);
         Check.is("11: duplicated", 2, z.exposedBy(0, 1));
         Check.is("11: from a destroyed one", 0, z.exposedBy(0, 0));
+        KeyArchive first = Build.with(0);
+        first.keep(0, 21);
+        first.rekey(0);
+        first.rekey(1);
+        first.rekey(5);
+        first.addMedium();
+        first.migrate(0);
+        Check.is("11: the first entry is the record", 1L, first.entry(1, 0, 0));
+        Check.is("11: by the very first entry", 1, first.exposedBy(0, 1));
+        Check.is("9: by the very first entry", 100L, first.openWith(0, 0));
     }
 }
