@@ -31,6 +31,59 @@ final class Build {
         }
     }
 
+    /** No records, and so many empty media. */
+    static KeyArchive withMedia(int media) {
+        KeyArchive archive = new KeyArchive();
+        for (int m = 1; m < media; m++) {
+            archive.addMedium();
+        }
+        return archive;
+    }
+
+    /** So many records have been stored, 193 or more; at least one leaf is free, on a new medium. */
+    static KeyArchive withRecords(int records) {
+        KeyArchive archive = new KeyArchive();
+        for (int i = 0; i < 192; i++) {
+            if (i > 0 && i % 64 == 0) {
+                forgetFirst(archive, 64);
+            }
+            archive.store(i % 64, i);
+        }
+        forgetFirst(archive, records - 191);
+        for (int i = 192; i < records; i++) {
+            archive.store(i % 64, i);
+        }
+        return archive;
+    }
+
+    private static void forgetFirst(KeyArchive archive, int leaves) {
+        for (int leaf = 0; leaf < leaves; leaf++) {
+            archive.mark(leaf, true);
+        }
+        archive.addMedium();
+        archive.forget(true);
+    }
+
+    static int freeLeaf(KeyArchive archive) {
+        int leaf = 0;
+        while (archive.recordAt(leaf) != -1) {
+            leaf++;
+        }
+        return leaf;
+    }
+
+    /** Day 1,000,000, but for so many days. */
+    static KeyArchive beforeLastDay(int days) {
+        KeyArchive archive = new KeyArchive();
+        for (int i = 0; i < 99; i++) {
+            archive.passDays(10000);
+        }
+        if (days < 10000) {
+            archive.passDays(10000 - days);
+        }
+        return archive;
+    }
+
     static void mark(KeyArchive archive, int... leaves) {
         for (int leaf : leaves) {
             archive.mark(leaf, true);

@@ -8,14 +8,20 @@ final class Check {
 
     private static int checked = 0;
     private static int wrong = 0;
+    private static String test = "";
 
     private Check() {}
+
+    /** The name stands before what is told of the answers that follow. */
+    static void begin(String name) {
+        test = name + ": ";
+    }
 
     static void is(String what, Object due, Object got) {
         checked++;
         if (!Objects.equals(due, got)) {
             wrong++;
-            System.out.println(what + ": answered " + got + ", due is " + due);
+            System.out.println(test + what + ": answered " + got + ", due is " + due);
         }
     }
 
