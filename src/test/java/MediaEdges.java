@@ -117,6 +117,17 @@ final class MediaEdges extends Edges {
         noState(() -> x.migrate(0));
     }
 
+    @Says("3: number of entries that migrate() would write")
+    static void promise35LastEntryOfAFullMediumIsNotOneOfTheNext() {
+        KeyArchive x = Build.withEntries(150);
+        x.addMedium();
+        describes(x, 0, 0, 150, 4, 4);
+        describes(x, 1, 0, 0, 0, 0);
+        x.lose(0);
+        describes(x, 0, 1, 150, 4, 4);
+        describes(x, 1, 0, 0, 0, 0);
+    }
+
     @Says("(0 if it is destroyed)")
     static void promise35MigrationOfADestroyedMedium() {
         KeyArchive x = Build.with(0);
@@ -306,6 +317,37 @@ final class MediaEdges extends Edges {
         is(2, x.destroy(0));
         is(0, x.medium(0, 1));
         is(0, x.openingKeys(0));
+    }
+
+    @Says("its entries are gone")
+    static void promise38LastRecordEntryOfAFullMediumIsGone() {
+        KeyArchive x = Build.withEntries(148);
+        x.store(1, 1);
+        x.keep(0, 22);
+        x.addMedium();
+        is(1, x.openSteps(0, 1));
+        x.destroy(0);
+        is(0, x.openingKeys(1));
+        is(0, x.custodian(0, 3));
+    }
+
+    @Says("its entries are gone")
+    static void promise38LastKeyEntryOfAFullMediumIsGone() {
+        // a lost medium has the way from place 1 on, and the last entry the way from the root to it
+        KeyArchive x = Build.with(0);
+        x.addMedium();
+        x.duplicate();
+        x.lose(1);
+        for (int entry = 5; entry <= 150; entry++) {
+            x.rekey(0);
+        }
+        x.keep(0, 0);
+        is(150, x.medium(0, 1));
+        is(1 + 2, x.openers(0));
+        x.destroy(0);
+        is(0, x.openers(0));
+        is(0, x.custodian(0, 3));
+        is(4, x.openingKeys(0));
     }
 
     @Says("that cannot be read any more because of this")
