@@ -15,31 +15,10 @@ import java.util.regex.Pattern;
 
 /** The class has the document's face and no more, and its text keeps to LANGUAGE.md. */
 public final class FaceTest {
-    private static final String I = "IndexOutOfBoundsException";
-    private static final String A = "IllegalArgumentException";
-    private static final String S = "IllegalStateException";
-    private static final String N = "NoSuchElementException";
-
-    // Result, name and kinds of arguments (i int, j long, z boolean), then what it throws.
-    private static final String[] FACE = {
-        "void reset i", "int store ij " + I + " " + S, "long read i " + I + " " + N,
-        "int recordAt i " + I, "int leafOf i " + I, "int recordCount i " + A,
-        "int openers i " + I, "long openWith ii " + I + " " + N,
-        "int openSteps ii " + I + " " + N, "int exposedBy ii " + I, "int hold ii " + I,
-        "int release i " + I, "int pins i " + I, "boolean mark iz " + I + " " + S,
-        "int markCount -", "int setDue ii " + I + " " + A + " " + S,
-        "int passDays i " + A + " " + S, "int day -", "int dueCount z",
-        "int extraCost i " + I + " " + S, "int forget z " + S, "int forgetCost -",
-        "int rekeyed i " + I, "int key i " + I, "int keyValue i " + I,
-        "int keep ii " + I + " " + S, "int drop i " + I, "int custodian ii " + I + " " + A,
-        "int rekey i " + I + " " + S, "int move ii " + I + " " + A + " " + S,
-        "int openingKeys i " + I, "int addMedium - " + S, "int mediumCount -",
-        "int medium ii " + I + " " + A, "long entry iii " + I + " " + A,
-        "int lose i " + I + " " + S, "int destroy i " + I + " " + S,
-        "int migrate i " + I + " " + S, "int redundancy i " + I, "int duplicate - " + S,
-        "int redundantMedia -", "int hash i " + I, "int keepProof ii " + I,
-        "int proofNumber ii " + I + " " + S, "int proofHash i " + I + " " + S,
-        "int proofHashWith ii " + I + " " + S};
+    private static final Path DOCUMENT = Path.of("../shared/DOC.md");
+    private static final Path SOURCE = Path.of("src/main/java/KeyArchive.java");
+    private static final Pattern SIGNATURE =
+        Pattern.compile("(\\w+) (\\w+)\\((.*)\\)(?: throws (.*))?");
 
     // Words that no rule of LANGUAGE.md leaves.
     private static final String[] RULED_OUT = {
@@ -49,14 +28,46 @@ public final class FaceTest {
         "\\bHashMap\\b", "\\bpackage\\b", "\\bnative\\b", "\\bstream\\("};
 
     public static void main(String[] args) throws IOException {
-        methods();
+        List<String> face = face();
+        promises(face);
+        methods(face);
+        declarations(face);
         otherMembers();
         nestedClasses();
         text();
         Check.end();
     }
 
-    private static void methods() {
+    /** The methods of the document's face as it writes them, without "public" and semicolon. */
+    private static List<String> face() throws IOException {
+        List<String> found = new ArrayList<>();
+        for (String line : Files.readAllLines(DOCUMENT, StandardCharsets.UTF_8)) {
+            if (line.startsWith("    public ") && SIGNATURE.matcher(bare(line)).matches()) {
+                found.add(bare(line));
+            }
+        }
+        Check.is("the methods of the document's face", 46, found.size());
+        return found;
+    }
+
+    private static String bare(String line) {
+        return line.trim().replaceAll("^public |;$", "");
+    }
+
+    // Each promise begins with a signature: the constructor's, then those of the face in order.
+    private static void promises(List<String> face) throws IOException {
+        List<String> found = new ArrayList<>();
+        for (String line : Files.readAllLines(DOCUMENT, StandardCharsets.UTF_8)) {
+            if (line.matches("`[^`]+`")) {
+                found.add(line.replace("`", ""));
+            }
+        }
+        List<String> due = new ArrayList<>(List.of("KeyArchive()"));
+        due.addAll(face);
+        Check.is("the signatures of the promises", due, found);
+    }
+
+    private static void methods(List<String> face) {
         Set<String> got = new TreeSet<>();
         Set<String> names = new TreeSet<>();
         for (Method method : KeyArchive.class.getDeclaredMethods()) {
@@ -67,7 +78,11 @@ public final class FaceTest {
                     Modifier.isStatic(method.getModifiers()));
             }
         }
-        Check.is("the face", new TreeSet<>(List.of(FACE)), got);
+        Set<String> due = new TreeSet<>();
+        for (String signature : face) {
+            due.add(inShort(signature));
+        }
+        Check.is("the face", due, got);
         for (Method method : KeyArchive.class.getDeclaredMethods()) {
             if (!Modifier.isPublic(method.getModifiers())) {
                 String name = method.getName();
@@ -75,6 +90,29 @@ public final class FaceTest {
                 Check.is(name + " has a name of its own", false, names.contains(name));
             }
         }
+    }
+
+    // Names of parameters and their order are the document's too.
+    private static void declarations(List<String> face) throws IOException {
+        String code = code().replaceAll("\\s+", " ");
+        for (String signature : face) {
+            Check.is(signature, true, code.contains(" public " + signature + " {"));
+        }
+        Check.is("NONE", true, code.contains(" public static final int NONE = -1;"));
+        Check.is("the constructor", true, code.contains(" public KeyArchive() {"));
+    }
+
+    /** Result, name and kinds of arguments (i int, j long, z boolean), then what it throws. */
+    private static String inShort(String signature) {
+        Matcher parts = SIGNATURE.matcher(signature);
+        Check.is("a signature: " + signature, true, parts.matches());
+        StringBuilder kinds = new StringBuilder();
+        for (String parameter : parts.group(3).split(", ")) {
+            kinds.append(parameter.startsWith("int ") ? "i" : parameter.startsWith("long ") ? "j"
+                : parameter.startsWith("boolean ") ? "z" : "-");
+        }
+        String thrown = parts.group(4) == null ? "" : " " + parts.group(4).replace(",", "");
+        return parts.group(1) + " " + parts.group(2) + " " + kinds + thrown;
     }
 
     private static String written(Method method) {
@@ -121,10 +159,14 @@ public final class FaceTest {
         }
     }
 
+    /** The text of the class without its comments. */
+    private static String code() throws IOException {
+        String text = Files.readString(SOURCE, StandardCharsets.US_ASCII);
+        return text.replaceAll("(?s)/\\*.*?\\*/", "").replaceAll("//[^\n]*", "");
+    }
+
     private static void text() throws IOException {
-        Path path = Path.of("src/main/java/KeyArchive.java");
-        String text = Files.readString(path, StandardCharsets.US_ASCII);
-        String code = text.replaceAll("(?s)/\\*.*?\\*/", "").replaceAll("//[^\n]*", "");
+        String code = code();
         for (String word : RULED_OUT) {
             Matcher matcher = Pattern.compile(word).matcher(code);
             Check.is("no " + word, false, matcher.find());
